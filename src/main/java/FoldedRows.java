@@ -77,7 +77,6 @@ public final class FoldedRows {
         Frame told = spare;
         spare = now;
         now = told;
-        goal = 0;
         history.forget();
         for (int k = 0; k < IMAGE_COUNT; k++) {
             forgetImage(k);

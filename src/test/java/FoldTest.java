@@ -115,6 +115,17 @@ public final class FoldTest {
         Due.due("HIDDEN no more", x.rule(3), 0);
         Due.due("unwrap(0)", x.unwrap(0), 0);
         Due.due("unwrap(0)", x.unwrap(0), FoldedRows.BAD);
+        // Nothing of one that went is left, neither what it hid nor that it was SHUT.
+        x = Due.told("[a\nb]\nc");
+        x.shut(0, 1);
+        x.unwrap(0);
+        Due.due("rule(3)", x.rule(3), 0);
+        Due.due("rule(5)", x.rule(5), 0);
+        Due.due("go(1, 0)", x.go(1, 0), 1);
+        x.go(0, 1);
+        Due.due("split()", x.split(), 4);
+        Due.due("wrap(1, 2)", x.wrap(1, 2), 0);
+        Due.foldIs("wrap", x, 0, 1, 2, 0, 0);
     }
 
     private static void splitFolds() {

@@ -9,7 +9,10 @@ public final class LookTest {
         indents();
         breaks();
         byWords();
+        fortySigns();
+        fortyMarksAndBlanks();
         screen();
+        rowsOfLaterLines();
         wrongNumbers();
         Due.end();
     }
@@ -208,6 +211,57 @@ public final class LookTest {
         x = laid("a\tb cdefg h", 8, 4, 2, 0);
         rowsBeginAt(x, 0, 4);
         columnsAre(x, 0, 1, 4, 5, 0, 1, 2, 3, 4, 5, 6, 7);
+    }
+
+    private static void fortySigns() {
+        FoldedRows x = laid("ABCDEFGHIJABCDEFGHIJABCDEFGHIJABCDEFGHIJ", 4, 4, 2, 2);
+        Due.due("rule(2) of 40 WIDE ones", x.rule(2), 39);
+        Due.rowIs("the first", x, 0, 0, 0, 2, 0, 4);
+        Due.rowIs("the one ahead of the last", x, 37, 0, 38, 39, 2, 4);
+        Due.rowIs("the last", x, 38, 0, 39, 40, 2, 4);
+        Due.due("line(0, 4) of 40", x.line(0, 4), 41);
+        Due.due("line(0, 5) of 40", x.line(0, 5), 39);
+        Due.due("at(0, 39, 3)", x.at(0, 39, 3), 1);
+        for (int p = 2; p < 40; p++) {
+            Due.due("at(0, " + p + ", 0)", x.at(0, p, 0), p - 1);
+            Due.due("at(0, " + p + ", 1)", x.at(0, p, 1), 2);
+        }
+        Due.due("at(0, 40, 0)", x.at(0, 40, 0), 38);
+        Due.due("at(0, 40, 1)", x.at(0, 40, 1), 4);
+        Due.due("at(0, 40, 2)", x.at(0, 40, 2), 1);
+        cellsAre(x, 38, -4, -4, 39, 39, -4);
+        Due.due("to(38, 4)", x.to(38, 4), 40);
+    }
+
+    private static void fortyMarksAndBlanks() {
+        FoldedRows x = laid("abcd                                    ", 4, 4, 1, 2);
+        Due.due("line(0, 6) of 40", x.line(0, 6), 36);
+        Due.due("line(0, 4) of 40", x.line(0, 4), 5);
+        Due.due("at(0, 39, 2)", x.at(0, 39, 2), 0);
+        Due.due("at(0, 40, 2)", x.at(0, 40, 2), 1);
+        x.set(2, 0);
+        Due.due("line(0, 6), MODE 0", x.line(0, 6), 0);
+        Due.rowIs("MODE 0", x, 0, 0, 0, 40, 0, 40);
+        cellsAre(x, 0, 0, 1, 2, 3, 4);
+        Due.due("cell(0, 39)", x.cell(0, 39), 39);
+        Due.due("cell(0, 40)", x.cell(0, 40), -4);
+        x = laid("~~~~~~~~~~~~~~~~~~~~~~~~~~~~~~~~~~~~~~~~", 4, 4, 2, 2);
+        Due.due("line(0, 1) of marks", x.line(0, 1), 1);
+        Due.due("line(0, 4) of marks", x.line(0, 4), 2);
+        Due.due("at(0, 40, 1) of marks", x.at(0, 40, 1), 1);
+    }
+
+    private static void rowsOfLaterLines() {
+        FoldedRows x = laid("abcdef\nghijklmn\nop", 4, 4, 1, 0);
+        cellsAre(x, 2, 0, 1, 2, 3, -4);
+        cellsAre(x, 3, 4, 5, 6, 7, -4);
+        cellsAre(x, 4, 0, 1, -4);
+        Due.due("to(2, 1)", x.to(2, 1), 1);
+        Due.due("to(2, 9)", x.to(2, 9), 3);
+        Due.due("to(3, 1)", x.to(3, 1), 5);
+        Due.due("to(3, 9)", x.to(3, 9), 8);
+        Due.due("to(4, 1)", x.to(4, 1), 1);
+        Due.due("to(4, 9)", x.to(4, 9), 2);
     }
 
     private static void screen() {

@@ -106,6 +106,9 @@ public final class SheetTest {
         Due.due("paste of the last CELL", x.paste(0, 0, 19, 1), 2);
         Due.due("a new row", x.sheet(0, 0, 20), 1);
         Due.due("paste of a 0", x.paste(0, 0, 19, 1), -20);
+        x.lay(0, 0, 'a');
+        x.sheet(0, 0, 20);
+        Due.due("paste of a 0 ahead", x.paste(0, 0, 0, 1), -20);
         Due.due("a row of none", x.sheet(0, 2, 0), 1);
         Due.due("lay(0, 0, 1)", x.lay(0, 0, 1), -13);
         Due.due("paste(0, 2, 0, 1)", x.paste(0, 2, 0, 1), -13);

@@ -7,6 +7,7 @@ public final class TextTest {
         faults();
         faultsOfFolds();
         whatATextLeaves();
+        nothingOfEarlierTexts();
         Due.end();
     }
 
@@ -147,5 +148,26 @@ public final class TextTest {
         Due.due("back(0) behind a text", x.back(0), FoldedRows.STATE);
         Due.due("paste of a SHEET behind a text", x.paste(1, 0, 0, 1), 4);
         Due.lineIs(x, 0, "qxyz");
+    }
+
+    private static void nothingOfEarlierTexts() {
+        FoldedRows x = new FoldedRows();
+        for (int round = 0; round < 3; round++) {
+            Due.due("a long text", Due.tell(x, "[ab\n[cd\nef]]\ngh"), 4);
+            Due.due("rule(4)", x.rule(4), 2);
+            Due.caretIs("a long text", x, 0, 0, 0, 0, 0);
+            x.go(3, 1);
+            x.shut(1, 1);
+            Due.due("a text with a FAULT", Due.tell(x, "[ab\ncd\nef]!"), -20);
+            Due.due("another with a FAULT", Due.tell(x, "[ab\ncd"), -16);
+            Due.due("a short text", Due.tell(x, "a\n\n"), 3);
+            Due.due("rule(4)", x.rule(4), 0);
+            Due.lineIs(x, 0, "a");
+            Due.lineIs(x, 1, "");
+            Due.lineIs(x, 2, "");
+            Due.caretIs("a short text", x, 0, 0, 0, 0, 0);
+            x.wrap(0, 2);
+            x.go(2, 0);
+        }
     }
 }
