@@ -1160,7 +1160,6 @@ public final class FoldedRows {
             indent = by.mode == NO_BREAKS ? 0 : Math.min(leadingCells(lines, l, by) + by.extra, by.width / 2);
             findBreaks(lines, l);
             int from = 0;
-            rows = 0;
             // A LINE without SIGNS has a ROW, too.
             for (int r = 0; r <= SIGN_LIMIT && (r == 0 || from < size); r++) {
                 Numbers.put(rowBegins, r, from);

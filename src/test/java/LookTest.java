@@ -205,6 +205,14 @@ public final class LookTest {
         FoldedRows x = laid(" abcde", 4, 4, 2, 0);
         rowsBeginAt(x, 0, 1, 4);
         columnsAre(x, 0, 1, 2, 3, 1, 2, 3);
+        cellsAre(x, 0, 0, -4, -4, -4);
+        cellsAre(x, 1, -4, 1, 2, 3, -4);
+        x.go(0, 6);
+        x.erase();
+        x.erase();
+        rowsBeginAt(x, 0);
+        Due.due("line(0, 4) of a shorter LINE", x.line(0, 4), 5);
+        cellsAre(x, 0, 0, 1, 2, 3, -4);
         // The BREAK may be the PLACE of the SIGN that does not fit.
         rowsBeginAt(laid("a cd-ef", 5, 4, 2, 0), 0, 5);
         Due.rowIs("what is ahead of an end stays", laid("ab cdefg", 5, 4, 2, 0), 0, 0, 0, 3, 0, 3);
