@@ -1308,7 +1308,7 @@ public final class FoldedRows {
 
         private int rowEnd(int from, int tooFar) {
             for (int i = tooFar; i > from; i--) {
-                if (isBreak(i)) {
+                if (Numbers.pick(breaks, i) == 1) {
                     return i;
                 }
             }

@@ -11,6 +11,14 @@ final class Due {
         }
     }
 
+    static void must(boolean holds, String what) {
+        asked++;
+        if (!holds) {
+            wrong++;
+            System.out.println(what);
+        }
+    }
+
     static FoldedRows told(String text) {
         FoldedRows x = new FoldedRows();
         tell(x, text);
