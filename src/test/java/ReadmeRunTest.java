@@ -35,11 +35,11 @@ public final class ReadmeRunTest {
 
     private static void everyTestIsRun() throws IOException {
         try (Scratch at = project()) {
-            at.put("main/src/test/java/OtherTest.java", program("OtherTest", 0));
+            at.put("main/src/test/java/SecondTest.java", program("SecondTest", 0));
             at.put("main/src/test/java/Helper.java", program("Helper", 1));
             at.put("shared/tests/OtherRuns.java", program("OtherRuns", 0));
             Due.due("exit code where all pass", ci(at), 0);
-            for (String name : new String[] {"OwnTest", "OtherTest", "SharedRuns", "OtherRuns"}) {
+            for (String name : new String[] {"OwnTest", "SecondTest", "SharedRuns", "OtherRuns"}) {
                 Due.must(at.printed.contains(name + " ran\n"), name + " is not run:\n" + at.printed);
             }
             Due.must(!at.printed.contains("Helper ran"), "a file is run that does not end with Test.java");
